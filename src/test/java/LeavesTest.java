@@ -14,6 +14,7 @@ public final class LeavesTest {
         bulk();
         walk();
         having();
+        allLeaves();
         CHECK.end("LeavesTest");
     }
 
@@ -66,6 +67,7 @@ public final class LeavesTest {
         LeafAsks x = eight();
         CHECK.due("next of 0", x.next(0, -1, -1, -1), 0);
         CHECK.due("next of 1", x.next(1, -1, -1, -1), 0);
+        CHECK.due("next of 1.1.0.1", x.next(1, 1, 0, 1), 0);
         CHECK.due("next of 1.1.0.2", x.next(1, 1, 0, 2), 1);
         CHECK.due("next of 1.1.0.3", x.next(1, 1, 0, 3), 1);
         CHECK.due("next of 1.1.9", x.next(1, 1, 9, -1), 5);
@@ -76,6 +78,9 @@ public final class LeavesTest {
         CHECK.due("next of 9.9.0", x.next(9, 9, 0, -1), LeafAsks.NONE);
         CHECK.due("next of 9.9.9.9", x.next(9, 9, 9, 9), LeafAsks.NONE);
         CHECK.due("next without leaves", new LeafAsks().next(0, -1, -1, -1), LeafAsks.NONE);
+        Check.orders(x, "1.1.0.2=6;");
+        CHECK.due("next with fewer leaves than there were", x.next(9, 9, 0, -1), LeafAsks.NONE);
+        CHECK.due("the last one of them", x.leaf(9, 9, 0, -1), 4);
     }
 
     /** Rooms, by number: 5 5 5 5 6 4 4 5. */
@@ -93,12 +98,18 @@ public final class LeavesTest {
         CHECK.due("three at most", x.bulk(1, -1, -1, -1, 3, 999), 3);
         CHECK.due("the last one", x.bulk(9, -1, -1, -1, 99, 5), 1);
         CHECK.due("behind the last one", x.bulk(9, 9, 0, -1, 99, 999), 0);
+        CHECK.due("just ahead of the first one", x.bulk(1, 1, 0, 1, 99, 999), 8);
+        CHECK.due("just ahead of the last one", x.bulk(9, 9, -1, -1, 99, 999), 1);
         CHECK.due("many -1", x.bulk(1, 1, -1, -1, -1, 9), LeafAsks.BAD);
         CHECK.due("many 100", x.bulk(1, 1, -1, -1, 100, 9), LeafAsks.BAD);
         CHECK.due("room -1", x.bulk(1, 1, -1, -1, 9, -1), LeafAsks.BAD);
         CHECK.due("room 1000", x.bulk(1, 1, -1, -1, 9, 1000), LeafAsks.BAD);
+        LeafAsks hundred = Check.of("c1 1 5;");
+        hundred.ticks(20);
+        CHECK.due("room of 100", hundred.bulk(1, -1, -1, -1, 1, 6), 1);
+        CHECK.due("less than the room of 100", hundred.bulk(1, -1, -1, -1, 1, 5), 0);
         LeafAsks c = Check.of("c1 1 9;");
-        int[][] due = {{1, 9, 4}, {1, 18, 5}, {9, 99, 5}, {1, 108, 6}};
+        int[][] due = {{1, 9, 4}, {1, 18, 5}, {9, 99, 5}, {1, 108, 6}, {88, 900, 6}, {11, 999, 6}};
         for (int[] d : due) {
             c.ticks(d[0]);
             CHECK.due("a counter's value", c.told(0, 4), d[1]);
@@ -138,5 +149,33 @@ public final class LeavesTest {
         CHECK.due("none has -1", x.having(-1, 0), LeafAsks.NONE);
         CHECK.due("k below -1", x.having(0, -2), LeafAsks.BAD);
         CHECK.due("k far below -1", x.having(0, Integer.MIN_VALUE), LeafAsks.BAD);
+    }
+
+    /** As many leaves as there can be: 6 singles and counters, 2 tables of 9 rows and 4 columns. */
+    private static void allLeaves() {
+        LeafAsks x = Check.of("t4 4 3;t6 6 3;n1 1 0 9 0;n2 2 0 9 0;n3 3 0 9 0;c5 5 1;c7 7 1;c8 8 1;");
+        for (int row = 1; row <= 9; row++) {
+            for (int t = 4; t <= 6; t += 2) {
+                String table = t + "." + t + ".";
+                String orders = table + "0." + row + "=4;";
+                for (int column = 1; column <= 3; column++) {
+                    orders += table + column + "." + row + "=" + (10 * column + row) + ";";
+                }
+                CHECK.dueOrders(x, orders, 4);
+            }
+        }
+        CHECK.due("all leaves", x.count(2), 78);
+        CHECK.due("a single ahead of a table", x.leaf(3, 3, 0, -1), 2);
+        CHECK.due("a table's first cell", x.leaf(4, 4, 0, 1), 3);
+        CHECK.due("a table's last cell", x.leaf(4, 4, 3, 9), 38);
+        CHECK.due("a counter between tables", x.leaf(5, 5, 0, -1), 39);
+        CHECK.due("the last leaf's number", x.leaf(8, 8, 0, -1), 77);
+        CHECK.due("the last leaf's name", x.told(77, 0), 8);
+        CHECK.due("of column 3", x.having(39, 1), 75);
+        CHECK.due("all in one", x.bulk(0, -1, -1, -1, 99, 999), 78);
+        CHECK.due("walk of all", x.walk(6 * 4 + 18 * 5 + 54 * 6), 1);
+        CHECK.due("walk of all, a bit less", x.walk(6 * 4 + 18 * 5 + 54 * 6 - 1), 2);
+        CHECK.due("walk one by one", x.walk(6), 78);
+        CHECK.due("walk with two pairs", x.walk(8), 76);
     }
 }

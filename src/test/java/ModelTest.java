@@ -160,7 +160,7 @@ public final class ModelTest {
                 due("ticks(" + few + ")", x.ticks(few), model.ticks(few));
                 break;
             case 12:
-                int i = pick(0, 3);
+                int i = pick(0, random.nextInt(8));
                 due("answers(" + i + ")", x.answers(i), model.answers(i));
                 break;
             case 13: case 14:

@@ -154,6 +154,8 @@ public final class OrdersTest {
         CHECK.dueOrders(x, "2.1.0=9;", 1);
         LeafAsks two = Check.of("t2 1 1;t1 1 1;");
         CHECK.dueOrders(two, "2.1.0.1=4;1.1.0.1=4;", -1005);
+        CHECK.dueOrders(two, "2.1.0.9=4;", -1005);
+        CHECK.dueOrders(two, "1.1.0.9=4;", -1005);
         CHECK.dueOrders(two, "2.1.0.1=4;1.1.0.1=4;2.1.1.1=0;", -1015);
     }
 
@@ -245,6 +247,18 @@ public final class OrdersTest {
         CHECK.due("three to undo", x.count(8), 3);
         x.undo();
         CHECK.due("three wait when undone", x.count(4), 3);
+        CHECK.due("answers(2)", x.answers(2), 2);
+        CHECK.due("answers(0)", x.answers(0), 2);
+        CHECK.due("the one that is left", x.notice(0, 2), 2);
+        LeafAsks full = Check.of("t1 1 1;");
+        for (int row = 1; row <= 8; row++) {
+            Check.orders(full, "1.1.0." + row + "=4;1.1.1." + row + "=0;");
+        }
+        CHECK.due("the last one of eight", full.answers(7), 1);
+        CHECK.due("one amid seven", full.answers(5), 1);
+        CHECK.due("the newest of six", full.notice(5, 2), 7);
+        CHECK.due("the one ahead of it", full.notice(4, 2), 5);
+        CHECK.due("the oldest of six", full.notice(0, 2), 1);
     }
 
     private static void undoing() {
