@@ -728,7 +728,19 @@ public final class LeafAsks {
         }
 
         void takeFrom(State other) {
-            System.arraycopy(other.data, 0, data, 0, SIZE);
+            loadFrom(other.data, 0);
+        }
+
+        void storeInto(int[] store, int from) {
+            if (from >= 0 && from <= store.length - SIZE) {
+                System.arraycopy(data, 0, store, from, SIZE);
+            }
+        }
+
+        void loadFrom(int[] store, int from) {
+            if (from >= 0 && from <= store.length - SIZE) {
+                System.arraycopy(store, from, data, 0, SIZE);
+            }
         }
 
         int time() {
@@ -1015,14 +1027,14 @@ public final class LeafAsks {
 
         void put(int place, State state) {
             if (place >= 0 && place < taken.length) {
-                System.arraycopy(state.data, 0, data, place * State.SIZE, State.SIZE);
+                state.storeInto(data, place * State.SIZE);
                 taken[place] = true;
             }
         }
 
         void bring(int place, State state) {
             if (has(place)) {
-                System.arraycopy(data, place * State.SIZE, state.data, 0, State.SIZE);
+                state.loadFrom(data, place * State.SIZE);
             }
         }
 
