@@ -2,9 +2,12 @@ import java.util.ArrayList;
 import java.util.List;
 import java.util.Random;
 
-/** Random runs of calls, of fixed seeds, on LeafAsks and on Model: each answer is the same. */
+/**
+ * Random runs of calls, of fixed seeds, on LeafAsks and on Model: each answer is the same. They are longer than
+ * the 512 calls that the document promises, since LeafAsks makes no use of that end.
+ */
 public final class ModelTest {
-    private static final int RUNS = 1500, CALLS = 512;
+    private static final int RUNS = 2000, CALLS = 2000;
     private static final int[] ODD = {-1, 10, 100, 256, 1000, Integer.MAX_VALUE, Integer.MIN_VALUE, -2};
 
     private final Check check = new Check();
@@ -88,54 +91,72 @@ public final class ModelTest {
     private String branchText() {
         told.clear();
         StringBuilder text = new StringBuilder();
-        int items = random.nextInt(6) == 0 ? random.nextInt(10) : 2 + random.nextInt(5);
+        int items = random.nextInt(6) == 0 ? random.nextInt(10) : 2 + random.nextInt(6);
         int tables = 0;
         for (int i = 0; i < items; i++) {
-            int a = 1 + random.nextInt(random.nextInt(4) == 0 ? 9 : 2), b = 1 + random.nextInt(9);
+            int[] name = freshName();
             int letter = i == 0 ? 2 : random.nextInt(3);
-            if (letter == 2 && ++tables > 2 && random.nextInt(9) != 0) letter = 1;
-            int low = random.nextInt(random.nextInt(9) == 0 ? 100 : 20), high = 20 + random.nextInt(80);
-            int value = random.nextInt(12) == 0 ? random.nextInt(101) : Math.min(high, low + random.nextInt(9));
-            int size = random.nextInt(30) == 0 ? 4 : 1 + random.nextInt(3);
-            text.append(blanks()).append("nct".charAt(letter)).append(blanks()).append(a).append(' ').append(b);
+            if (letter == 2 && ++tables > 2 && random.nextInt(30) != 0) {
+                letter = 1;
+            }
+            int low = random.nextInt(random.nextInt(30) == 0 ? 100 : 20), high = 20 + random.nextInt(80);
+            int value = random.nextInt(40) == 0 ? random.nextInt(101) : Math.min(high, low + random.nextInt(9));
+            int size = random.nextInt(60) == 0 ? 4 : 1 + random.nextInt(3);
+            text.append(blanks()).append("nct".charAt(letter)).append(blanks()).append(name[0]).append(' ').append(name[1]);
             text.append(' ').append(letter == 0 ? low + " " + high + " " + value : "" + size);
             text.append(blanks()).append(";");
-            told.add(new int[] {letter, a, b, size, low, high});
+            told.add(new int[] {letter, name[0], name[1], size, low});
         }
-        return spoilt(text.toString(), "nct;0123456789 .=x#", 6);
+        return spoilt(text.toString(), "nct;0123456789 .=x#", 10);
+    }
+
+    /** A branch's name; seldom one that is another one's. */
+    private int[] freshName() {
+        int[] name = new int[2];
+        boolean fresh = false;
+        while (!fresh) {
+            name[0] = 1 + random.nextInt(random.nextInt(4) == 0 ? 9 : 2);
+            name[1] = 1 + random.nextInt(9);
+            fresh = random.nextInt(60) == 0 || told.stream().noneMatch(b -> b[1] == name[0] && b[2] == name[1]);
+        }
+        return name;
     }
 
     private String orderText() {
         StringBuilder text = new StringBuilder();
-        int items = random.nextInt(40) == 0 ? random.nextInt(11) : 1 + random.nextInt(6);
-        int row = 1 + random.nextInt(random.nextInt(5) == 0 ? 9 : 3);
+        int items = random.nextInt(30) == 0 ? random.nextInt(11) : 1 + random.nextInt(5);
         for (int i = 0; i < items; i++) {
-            if (told.isEmpty()) {
-                told.add(new int[] {2, 1, 1, 3, 0, 0});
-            }
-            int[] b = told.get(random.nextInt(3) == 0 ? random.nextInt(told.size()) : 0);
-            if (random.nextInt(4) == 0) {
-                row = 1 + random.nextInt(4);
-            }
-            text.append(blanks()).append(b[1]).append(blanks()).append('.').append(b[2]).append('.');
-            if (b[0] != 2) {
-                int value = b[0] == 0 ? b[4] + random.nextInt(30) : random.nextInt(100);
-                text.append(0).append('=').append(Math.min(99, value)).append(';');
-            } else if (random.nextInt(2) == 0) {
-                int value = new int[] {1, 1, 2, 2, 4, 4, 4, 5, 5, 6, random.nextInt(8)}[random.nextInt(11)];
-                text.append("0.").append(row).append('=').append(blanks()).append(value).append(';');
-            } else {
-                text.append(1 + random.nextInt(b[3])).append('.').append(row).append('=');
-                text.append(random.nextInt(random.nextInt(2) == 0 ? 4 : 100)).append(";");
-            }
-            if (random.nextInt(3) == 0 && b[0] == 2) {
-                for (int c = 1; c <= b[3]; c++) {
-                    text.append(b[1]).append('.').append(b[2]).append('.').append(c).append('.').append(row).append("=1;");
-                    i++;
-                }
+            int[] b = told.isEmpty() ? new int[] {2, 1, 1, 3, 0} : told.get(random.nextInt(told.size()));
+            if (b[0] == 2) {
+                i += rowOrders(text, b, 1 + random.nextInt(random.nextInt(3) == 0 ? 9 : 4), items - i);
+            } else if (b[0] == 0 || random.nextInt(10) == 0) {
+                text.append(b[1]).append(blanks()).append('.').append(b[2]).append(".0=");
+                text.append(Math.min(99, b[4] + random.nextInt(20))).append(';');
             }
         }
-        return spoilt(text.toString(), ".=;0123456789 nx#", 8);
+        return spoilt(text.toString(), ".=;0123456789 nx#", 15);
+    }
+
+    /** Orders for a row, most of them such as can be done: how many more than one. */
+    private int rowOrders(StringBuilder text, int[] b, int row, int most) {
+        int at = model.leaf(b[1], b[2], 0, row);
+        int status = at < 0 ? 0 : model.told(at, 4);
+        int[][] sensible = {{4, 4, 5, 6}, {2, 2, 6, 9}, {1, 1, 1, 6, 9}, {9, 9, 9, 6}};
+        int[] values = random.nextInt(12) == 0 ? new int[] {1, 2, 3, 4, 5, 6, 9} : sensible[status];
+        int value = values[random.nextInt(values.length)];
+        String table = b[1] + "." + blanks() + b[2] + ".";
+        if (value == 9) {
+            text.append(table).append(1 + random.nextInt(b[3])).append('.').append(row).append('=');
+            text.append(random.nextInt(random.nextInt(2) == 0 ? 4 : 100)).append(";");
+            return 0;
+        }
+        text.append(table).append("0.").append(row).append(blanks()).append('=').append(value).append(';');
+        int more = 0;
+        for (int column = 1; value == 4 && column <= b[3] && random.nextInt(12) != 0; column++) {
+            text.append(table).append(column).append('.').append(row).append("=").append(random.nextInt(20)).append(';');
+            more++;
+        }
+        return random.nextInt(9) == 0 ? Math.min(more, most) : more;
     }
 
     private void order() {
@@ -207,7 +228,7 @@ public final class ModelTest {
         due("notice(" + i + ", " + what + ")", x.notice(i, what), model.notice(i, what));
     }
 
-    /** All that can be asked. The document frees what comes behind 512 calls, but LeafAsks makes no use of it. */
+    /** All that can be asked. */
     private void askAll() {
         for (int what = -1; what <= 9; what++) {
             due("count(" + what + ")", x.count(what), model.count(what));
