@@ -58,6 +58,11 @@ final class Edges {
         refused("orders '" + text + "'", x -> typedOver(x, text), LeafAsks::orders, want);
     }
 
+    /** A call that the rich object answers without a change. */
+    void asked(String what, ToIntFunction<LeafAsks> call, int want) {
+        refused(what, Edges::rich, call, want);
+    }
+
     /** A call that is refused by the rich object. */
     void refused(String what, ToIntFunction<LeafAsks> call, int want) {
         refused(what, Edges::rich, call, want);

@@ -14,6 +14,7 @@ public final class EdgesOfLeavesTest {
     };
 
     public static void main(String[] args) {
+        nothingIsChanged();
         noNames();
         shortestAndLongestNames();
         leavesOfSinglesAndCounters();
@@ -54,6 +55,26 @@ public final class EdgesOfLeavesTest {
 
     private static String said(int[] n) {
         return n[0] + ", " + n[1] + ", " + n[2] + ", " + n[3];
+    }
+
+    private static void nothingIsChanged() {
+        EDGES.sentence(9, "(Nothing is changed.)");
+        EDGES.asked("leaf(3, 1, 0, -1)", x -> x.leaf(3, 1, 0, -1), 5);
+        EDGES.asked("leaf(3, 1, 0, 0)", x -> x.leaf(3, 1, 0, 0), LeafAsks.NONE);
+        EDGES.sentence(10, "(Nothing is changed.)");
+        EDGES.asked("told(5, 4)", x -> x.told(5, 4), 30);
+        EDGES.sentence(11, "(Nothing is changed.)");
+        EDGES.asked("next(3, 1, 0, -1)", x -> x.next(3, 1, 0, -1), 6);
+        EDGES.asked("next(9, 9, 9, 9)", x -> x.next(9, 9, 9, 9), LeafAsks.NONE);
+        EDGES.sentence(12, "(Nothing is changed.)");
+        EDGES.asked("bulk(3, 1, 0, -1, 99, 999)", x -> x.bulk(3, 1, 0, -1, 99, 999), 5);
+        EDGES.sentence(13, "(Nothing is changed.)");
+        EDGES.asked("walk(999)", x -> x.walk(999), 1);
+        EDGES.asked("walk(5)", x -> x.walk(5), LeafAsks.NONE);
+        EDGES.sentence(14, "(Nothing is changed.)");
+        EDGES.asked("having(99, 0)", x -> x.having(99, 0), 10);
+        EDGES.asked("having(99, -1)", x -> x.having(99, -1), 1);
+        EDGES.asked("having(99, 1)", x -> x.having(99, 1), LeafAsks.NONE);
     }
 
     private static void noNames() {
@@ -241,6 +262,10 @@ public final class EdgesOfLeavesTest {
             EDGES.due("bulk behind leaf " + k, x.bulk(n[0], n[1], n[2], n[3], 99, 999), 5 - k);
             EDGES.due("two behind leaf " + k, x.bulk(n[0], n[1], n[2], n[3], 2, 999), Math.min(2, 5 - k));
         }
+        EDGES.due("just ahead of the first leaf", x.bulk(1, 1, 0, 0, 99, 999), 6);
+        EDGES.due("just ahead of the second leaf", x.bulk(1, 1, 0, 8, 99, 999), 5);
+        EDGES.due("just ahead of the last leaf", x.bulk(9, 9, -1, -1, 99, 999), 1);
+        EDGES.due("just behind the last leaf", x.bulk(9, 9, 0, 0, 99, 999), 0);
         EDGES.due("bulk of a new object", new LeafAsks().bulk(0, -1, -1, -1, 99, 999), 0);
     }
 
@@ -355,6 +380,7 @@ public final class EdgesOfLeavesTest {
         EDGES.due("having(0, 3)", x.having(0, 3), LeafAsks.NONE);
         EDGES.due("having(0, the most)", x.having(0, Integer.MAX_VALUE), LeafAsks.NONE);
         EDGES.due("the first leaf's value", x.having(1, 0), 0);
+        EDGES.due("how many have the first leaf's value", x.having(1, -1), 1);
         EDGES.due("the last leaf's value", x.having(42, 0), 5);
         EDGES.due("one has it", x.having(42, -1), 1);
         EDGES.due("no second one has it", x.having(42, 1), LeafAsks.NONE);

@@ -374,6 +374,14 @@ public final class EdgesOfOrdersTest {
         }
         EDGES.refusedOrders("4.1.0.1=4;4.1.1.1=1;", -1005);
         EDGES.refusedOrders("4.1.0.1=4;4.1.2.1=1;", -1005);
+        for (int row = 1; row <= 9; row++) {
+            LeafAsks x = Check.of("t1 1 1;t1 2 3;");
+            String wide = "1.2.0.#=4;1.2.1.#=0;1.2.2.#=0;".replace("#", "" + row);
+            EDGES.dueOrders(x, "1.1.0." + row + "=4;", -1005);
+            EDGES.dueOrders(x, wide, -1005);
+            EDGES.dueOrders(x, "1.1.0." + row + "=4;1.1.1." + row + "=0;", 2);
+            EDGES.dueOrders(x, wide + "1.2.3." + row + "=0;", 4);
+        }
         EDGES.dueOrders(small(), "1.1.0.1=4;1.1.0.1=2;", 2);
         EDGES.dueOrders(small(), "1.1.0.1=4;1.1.0.1=6;", 2);
         EDGES.dueOrders(small(), "1.1.0.1=4;1.1.0.1=2;1.1.0.1=1;", -1005);
@@ -455,6 +463,11 @@ public final class EdgesOfOrdersTest {
         EDGES.due("to work, back and to work: one", x.count(4), 1);
         EDGES.dueOrders(x, "2.1.0=10;", 1);
         EDGES.due("none of a single", x.count(4), 1);
+        LeafAsks singles = Check.of("n1 1 0 9 0;n2 1 0 9 0;n3 1 0 9 0;n4 1 0 9 0;n5 1 0 9 0;n6 1 0 9 0;n7 1 0 9 0;");
+        for (String value : new String[] {"1", "2"}) {
+            EDGES.dueOrders(singles, "1.1.0=#;2.1.0=#;3.1.0=#;4.1.0=#;5.1.0=#;6.1.0=#;7.1.0=#;".replace("#", value), 7);
+            EDGES.due("none of seven singles that get " + value, singles.count(4), 0);
+        }
         EDGES.sentence(5, "A NOTICE is SENT once as it is made");
         EDGES.due("notice(0, 3)", x.notice(0, 3), 1);
         EDGES.due("notice(0, 4)", x.notice(0, 4), 3);

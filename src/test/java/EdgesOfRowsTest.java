@@ -4,6 +4,7 @@ public final class EdgesOfRowsTest {
     private static final int[] FAR = {Integer.MIN_VALUE, -1000, 1000, Integer.MAX_VALUE};
 
     public static void main(String[] args) {
+        nothingIsChanged();
         whichTable();
         whichRow();
         statuses();
@@ -19,6 +20,20 @@ public final class EdgesOfRowsTest {
         counts();
         countsAtMost();
         EDGES.end("EdgesOfRowsTest");
+    }
+
+    private static void nothingIsChanged() {
+        EDGES.sentence(15, "(Nothing is changed.)");
+        EDGES.asked("status(0, 3)", x -> x.status(0, 3), 1);
+        EDGES.asked("status(1, 1)", x -> x.status(1, 1), 0);
+        EDGES.sentence(16, "(Nothing is changed.)");
+        EDGES.asked("needs(1, 5)", x -> x.needs(1, 5), 2);
+        EDGES.asked("needs(1, 1)", x -> x.needs(1, 1), 3);
+        EDGES.sentence(17, "(Nothing is changed.)");
+        EDGES.asked("notice(0, 2)", x -> x.notice(0, 2), 2);
+        EDGES.sentence(20, "(Nothing is changed.)");
+        EDGES.asked("count(2)", x -> x.count(2), 11);
+        EDGES.asked("count(8)", x -> x.count(8), 6);
     }
 
     private static void whichTable() {
@@ -137,9 +152,11 @@ public final class EdgesOfRowsTest {
     private static void whatOfNotice() {
         EDGES.sentence(17, "0 kind, 1 which TABLE (as above), 2 ROW, 3 how often it was SENT, "
             + "4 in how many TICKS it is SENT again or GIVEN UP. BAD.");
-        EDGES.refused("notice(0, -1)", x -> x.notice(0, -1), LeafAsks.BAD);
-        EDGES.refused("notice(0, 5)", x -> x.notice(0, 5), LeafAsks.BAD);
-        EDGES.refused("notice(6, 5)", x -> x.notice(6, 5), LeafAsks.BAD);
+        for (int i = 0; i < 7; i++) {
+            int which = i;
+            EDGES.refused("notice(" + i + ", -1)", x -> x.notice(which, -1), LeafAsks.BAD);
+            EDGES.refused("notice(" + i + ", 5)", x -> x.notice(which, 5), LeafAsks.BAD);
+        }
         for (int what : FAR) {
             EDGES.refused("notice(0, " + what + ")", x -> x.notice(0, what), LeafAsks.BAD);
         }

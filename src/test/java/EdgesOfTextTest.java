@@ -153,6 +153,11 @@ public final class EdgesOfTextTest {
         EDGES.due("count(0) of eight", x.count(0), 8);
         EDGES.due("the eighth one's leaf", x.leaf(1, 8, 0, -1), 7);
         EDGES.due("eight told behind eight", Check.branches(x, counters(8)), 8);
+        LeafAsks singles = Check.of("n8 1 0 99 18;n7 1 0 99 17;n6 1 0 99 16;n5 1 0 99 15;"
+            + "n4 1 0 99 14;n3 1 0 99 13;n2 1 0 99 12;n1 1 0 99 11;");
+        for (int k = 0; k < 8; k++) {
+            EDGES.due("single " + k + " of eight", singles.told(k, 4), 11 + k);
+        }
     }
 
     private static void howManyTables() {
