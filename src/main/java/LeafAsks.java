@@ -31,7 +31,7 @@ public final class LeafAsks {
     private final Shelf images = new Shelf(MOST_IMAGES);
 
     public LeafAsks() {
-        now.begin(tree);
+        // Rows of zeros are no branches, no leaves, no notices, time 0.
     }
 
     // ---- what is told
@@ -705,7 +705,8 @@ public final class LeafAsks {
         static final int KIND = 0, WHICH_TABLE = 1, ROW = 2, SENT = 3, LEFT = 4, NOTICE_FIELDS = 5;
         private static final int WENT_TO_WORK = 0, LEFT_WORK = 1;
         private static final int MOST_WAITING = 8, MOST_SENT = 3, TICKS_BETWEEN = 3, COUNTER_TURN = 1000;
-        private static final int UNFILLED = -1;
+        // A cell's value stands one higher, so that a new row of zeros is a state without leaves.
+        private static final int UNFILLED = 0;
         private static final int TIME = 0, DROPPED = 1, GIVEN_UP = 2, WAITING = 3;
         private static final int VALUES = 4;
         private static final int CELLS = VALUES + MOST_BRANCHES;
@@ -719,11 +720,6 @@ public final class LeafAsks {
             Arrays.fill(data, 0);
             for (int i = 0; i < tree.size; i++) {
                 setValue(i, tree.field(i, Tree.VALUE));
-            }
-            for (int t = 0; t < MOST_TABLES; t++) {
-                for (int row = 1; row <= MOST_ROWS; row++) {
-                    emptyRow(t, row);
-                }
             }
         }
 
@@ -775,12 +771,13 @@ public final class LeafAsks {
             write(cellPlace(t, 0, row), status);
         }
 
+        /** The value of a cell of another column than 0, where it is a leaf. */
         int cell(int t, int column, int row) {
-            return read(cellPlace(t, column, row));
+            return read(cellPlace(t, column, row)) - 1;
         }
 
         void setCell(int t, int column, int row, int value) {
-            write(cellPlace(t, column, row), value);
+            write(cellPlace(t, column, row), value + 1);
         }
 
         boolean isLeaf(int t, int column, int row) {
@@ -800,7 +797,7 @@ public final class LeafAsks {
         void emptyRow(int t, int row) {
             setStatus(t, row, AWAY);
             for (int column = 1; column <= MOST_COLUMNS; column++) {
-                setCell(t, column, row, UNFILLED);
+                write(cellPlace(t, column, row), UNFILLED);
             }
         }
 
@@ -980,9 +977,13 @@ public final class LeafAsks {
         private void listCells(int name, int t, int columns, State state) {
             for (int column = 0; column <= columns && column <= MOST_COLUMNS; column++) {
                 for (int row = 1; row <= MOST_ROWS; row++) {
-                    if (state.isLeaf(t, column, row)) {
-                        int kind = column == 0 ? STATUS_LEAF : CELL_LEAF;
-                        add(behind(name, column, row), state.cell(t, column, row), kind);
+                    if (!state.isLeaf(t, column, row)) {
+                        continue;
+                    }
+                    if (column == 0) {
+                        add(behind(name, column, row), state.statusOf(t, row), STATUS_LEAF);
+                    } else {
+                        add(behind(name, column, row), state.cell(t, column, row), CELL_LEAF);
                     }
                 }
             }

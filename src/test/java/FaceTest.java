@@ -77,6 +77,7 @@ public final class FaceTest {
         while (imports.find()) {
             CHECK.due("import of " + imports.group(1), imports.group(1).equals("java.util.Arrays"));
         }
+        constructors(text);
         for (String method : METHODS) {
             String name = method.substring(0, method.indexOf('/'));
             Matcher twin = Pattern.compile("\\b(int|void|boolean)\\s+" + name + "\\s*\\(").matcher(text);
@@ -86,6 +87,19 @@ public final class FaceTest {
             }
             CHECK.due("methods named " + name, times, 1);
         }
+    }
+
+    /** Rule 12: a constructor hands out no part of the object that it makes; none needs more than Math here. */
+    private static void constructors(String text) {
+        Matcher body = Pattern.compile("\\n *(?:public )?([A-Z]\\w*)\\([^)]*\\) \\{([^{}]*)\\}").matcher(text);
+        Pattern call = Pattern.compile("\\w\\s*\\(");
+        int found = 0;
+        while (body.find()) {
+            found++;
+            String calls = body.group(2).replaceAll("\\bMath\\.\\w+\\(", "");
+            CHECK.due("the constructor of " + body.group(1) + " calls nothing", !call.matcher(calls).find());
+        }
+        CHECK.due("constructors that are written out", found, 2);
     }
 
     /** The room holds some 600,000 objects for all calls of a run: none are made behind the constructor. */
